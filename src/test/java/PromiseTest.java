@@ -242,11 +242,14 @@ public final class PromiseTest {
         faultOfTell("may 1a;", 5);
         faultOfTell("may g;", 4);
         faultOfTell("may ab;", 4);
+        faultOfTell("may az;", 4);
+        faultOfTell("may a?b;", 5);
         faultOfTell("may A;", 4);
         faultOfTell("may\ta;", 3);
         faultOfTell("may " + (char) 225 + ";", 4);
         faultOfTell("ma y a;", 0);
         faultOfTell("mayb;", 0);
+        faultOfTell("nay a;", 0);
         faultOfTell("fac", 0);
         faultOfTell("alwaysalways a;", 0);
         faultOfTell("may a;may ?b;may g;", 10);
@@ -273,7 +276,7 @@ public final class PromiseTest {
         faultOfTell(repeat("fact a;", 5), 28);
         faultOfTell(repeat("may a;", 7), 36);
         faultOfTell(repeat("may a;", 6) + "may", 36);
-        due("99 times &", tell(x, "may a" + repeat("&a", 197) + ";"), 1);
+        due("197 times &", tell(x, "may a" + repeat("&a", 197) + ";"), 1);
         due("197 times |", tell(x, "may 0" + repeat("|f", 197) + ";"), 1);
         due("its worlds", x.worlds(4, 0), F);
     }
@@ -322,6 +325,12 @@ public final class PromiseTest {
         faultOfQuestion("(a", 2);
         faultOfQuestion("a)", 1);
         faultOfQuestion(repeat("!", 9) + "a", 8);
+        faultOfQuestion("if " + repeat("(", 9), 11);
+        due("eight are open in when and in then", ask(x, "if !!!!!!!!e then ((((((((f))))))))"), 1);
+        due("a text of 400 tokens", ask(x, "!a" + repeat("|b", 199)), 1);
+        due("its worlds", x.worlds(5, 1), ~A | B);
+        faultOfQuestion("a" + repeat("|b", 199) + "|", 400);
+        faultOfQuestion("a" + repeat("|b", 199) + "!", 399);
         ask(x, "if e then f");
         due("refused", ask(x, "if a then b;"), -21);
         due("stays", x.worlds(5, 0), E);
@@ -393,6 +402,7 @@ public final class PromiseTest {
         String most = "if a then f;if a&b then !f;if a&b&c then f;if a&b&c&d then !f;if a&b&c&d&e then f;";
         due("as the last", told(most + "if !a then f;").grade(4), 4);
         due("as the first", told(most + "if !a then f;").grade(5), 0);
+        due("the eighth", told("if a then f;" + repeat("if b then c;", 6) + "if a&b then !f;").grade(7), 1);
     }
 
     private static void gradeOf() {
@@ -517,6 +527,9 @@ public final class PromiseTest {
         due("bad", x.ends(16), AsARule.BAD);
         tell(x, "if 1 then !a|b;if 1 then a;if b then c;");
         due("what follows from two lets a third in", x.ends(0), 7);
+        tell(x, "if e then f;if d then e;if c then d;if b then c;if a&(b|c) then b;if a then b|c;if a|b then a;if 1 then a|b;");
+        due("the last lets in the one before it, and so on", x.ends(0), 255);
+        due("only one", x.ends(-1), 1);
     }
 
     private static void leaves() {
@@ -671,6 +684,19 @@ public final class PromiseTest {
         due("the question's then alone", x.believed(), 7);
         tell(x, "always 0;");
         due("none at all", x.believed(), 99);
+        tell(x, "if 1 then 0;");
+        ask(x, "0");
+        due("never so, where all are in doubt", x.believed(), -99);
+        ask(x, "1");
+        due("always so, where all are in doubt", x.believed(), 99);
+        tell(x, "if a|b|c|d|e|f then 0;");
+        ask(x, "a");
+        due("world 0 counts", x.believed(), -9);
+        ask(x, "!(a|b|c|d|e|f)");
+        due("world 0 counts", x.believed(), 9);
+        tell(x, "if !(a&b&c&d&e&f) then 0;");
+        ask(x, "a");
+        due("world 63 counts", x.believed(), 9);
     }
 
     private static void forget() {
