@@ -236,6 +236,17 @@ public final class RefusedTest {
             refused("learn 1 of " + ever, ever, "may", x -> x.learn(1), AsARule.STATE);
             refused("learn 20 of " + ever, ever, "may", x -> x.learn(20), AsARule.STATE);
         }
+        for (String question : new String[] {"0", "1"}) {
+            AsARule x = new AsARule();
+            type(x, "if 1 then 0;");
+            due("tell", x.tell(), 1);
+            type(x, question);
+            due("question", x.question(), 1);
+            due("learn where all are in doubt", x.learn(5), AsARule.STATE);
+            for (long doubt : seenDoubts(x)) {
+                due("doubt", doubt, 9);
+            }
+        }
     }
 
     private static void badIsFirst() {
@@ -251,10 +262,22 @@ public final class RefusedTest {
     // ---- what else might leave a trace
 
     private static void readingChangesNothing() {
-        AsARule once = rich("if a then c|e", "if c then");
-        List<Long> first = seen(once);
-        same("all that only answers", seen(once), first);
+        AsARule quarrelling = rich("if a then c|e", "if c then");
+        List<Long> first = seen(quarrelling);
+        same("all that only answers", seen(quarrelling), first);
         due("no object has more than " + CALLS_MOST + " calls", calls <= CALLS_MOST ? 1 : 0, 1);
+        calls = 0;
+        AsARule calm = new AsARule();
+        type(calm, "if a then b;if a&c then !b;may d;");
+        due("tell", calm.tell(), 3);
+        type(calm, "if a then b");
+        due("question", calm.question(), 1);
+        due("ever", calm.so(2), 1);
+        due("no quarrel behind it", calm.count(4), 0);
+        due("grade behind it", calm.grade(1), 1);
+        first = seen(calm);
+        same("all that only answers", seen(calm), first);
+        due("no object has more than " + CALLS_MOST + " calls", calls + 5 <= CALLS_MOST ? 1 : 0, 1);
     }
 
     private static void faultLeavesNothingBehind() {
