@@ -9,11 +9,14 @@ import java.util.TreeSet;
  * the class does: sayings are judged world by world, faults by a stack, ends by trying every order.
  */
 public final class OracleTest {
-    private static final int RUNS = 6000;
+    private static final int RUNS = 12000;
     private static final int STEPS = 5;
+    /** What a run is mostly about. */
+    private static final int ANY = 0, GRADES = 1, ENDS = 2, WHYS = 3, DOUBTS = 4, THEMES = 4;
     private static final int CALLS_MOST = 512;
     private static int wrong = 0;
     private static int run = 0;
+    private static int theme = ANY;
     private static int calls = 0;
     private static String lastText = "";
 
@@ -43,32 +46,51 @@ public final class OracleTest {
         AsARule x = new AsARule();
         Model m = new Model();
         calls = 0;
-        int steps = random.nextInt(STEPS + 1);
+        theme = run % 2 == 0 ? ANY : 1 + run / 2 % THEMES;
+        int steps = theme == ANY ? random.nextInt(STEPS + 1) : theme == DOUBTS ? 3 * STEPS : 1;
+        if (theme != ANY) {
+            tellBoth(random, x, m);
+            askBoth(random, x, m);
+        }
         for (int step = 0; step < steps; step++) {
-            switch (random.nextInt(8)) {
-                case 0:
-                    due("forget", x.forget(), m.forget());
-                    break;
-                case 1:
-                case 2:
-                    askBoth(random, x, m);
-                    break;
-                case 3:
-                case 4:
-                    int f = 1 + random.nextInt(20);
-                    due("learn", x.learn(f), m.learn(f));
-                    break;
-                default:
-                    tellBoth(random, x, m);
-                    askBoth(random, x, m);
-                    break;
-            }
+            oneStep(random, x, m);
         }
         compare(random, x, m);
         if (calls > CALLS_MOST) {
             wrong++;
             System.out.println("run " + run + " made " + calls + " calls of one object");
         }
+    }
+
+    private static void oneStep(Random random, AsARule x, Model m) {
+        switch (random.nextInt(theme == DOUBTS ? 24 : 8)) {
+            case 0:
+                due("forget", x.forget(), m.forget());
+                break;
+            case 1:
+            case 2:
+                askBoth(random, x, m);
+                break;
+            case 3:
+            case 4:
+                learnBoth(random, x, m);
+                break;
+            case 5:
+            case 6:
+            case 7:
+                tellBoth(random, x, m);
+                askBoth(random, x, m);
+                break;
+            default:
+                askBoth(random, x, m);
+                learnBoth(random, x, m);
+                break;
+        }
+    }
+
+    private static void learnBoth(Random random, AsARule x, Model m) {
+        int f = 1 + random.nextInt(20);
+        due("learn", x.learn(f), m.learn(f));
     }
 
     private static void type(AsARule x, String text) {
@@ -87,40 +109,90 @@ public final class OracleTest {
 
     private static void tellBoth(Random random, AsARule x, Model m) {
         StringBuilder text = new StringBuilder();
-        Model read = new Model();
-        read.items.clear();
-        int items = random.nextInt(14);
+        List<Item> items = new ArrayList<>();
         int[] most = {4, 8, 4, 6};
+        int wanted = random.nextInt(theme == ANY ? 14 : 20);
         int depth = random.nextInt(3);
-        for (int i = 0; i < items; i++) {
-            int sort = random.nextInt(3) == 0 ? random.nextInt(4) : 1;
-            if (most[sort] == 0) {
+        for (int i = 0; i < wanted; i++) {
+            Item item = theme == ANY ? anyItem(random, depth) : themeItem(random);
+            if (most[item.sort] == 0) {
                 continue;
             }
-            Item item = new Item(sort, Node.random(random, depth), Node.random(random, depth));
             String added = item.text(random);
             if (text.length() + added.length() > 400) {
                 break;
             }
-            most[sort]--;
+            most[item.sort]--;
             text.append(added);
-            read.items.add(item);
+            items.add(item);
         }
         type(x, text.toString());
-        m.items = read.items;
+        m.items = items;
         m.settle();
         due("tell", x.tell(), m.items.size());
         due("bytes", x.count(5), 0);
     }
 
+    private static Item anyItem(Random random, int depth) {
+        int sort = random.nextInt(3) == 0 ? random.nextInt(4) : 1;
+        return new Item(sort, Node.random(random, depth), Node.random(random, depth));
+    }
+
+    /** Items of few letters that bear on one another, so that there are many GRADES, ENDS or WHYS. */
+    private static Item themeItem(Random random) {
+        int dice = random.nextInt(20);
+        switch (theme) {
+            case GRADES:
+                return dice == 0 ? new Item(0, null, oneOf(random, "bcde"))
+                    : new Item(1, allOf(random, "bcdef", random.nextInt(4)), dice < 15 ? literal(random, "a") : literal(random, "ab"));
+            case ENDS:
+                return dice < 3 ? new Item(2, null, literal(random, "ab")) : dice == 3 ? new Item(0, null, oneOf(random, "bcd"))
+                    : new Item(1, dice < 12 ? new Node('1', null, null) : literal(random, "abc"),
+                        dice % 3 == 0 ? oneOf(random, "abcd") : literal(random, "abcd"));
+            case WHYS:
+                return dice < 5 ? new Item(0, null, new Node('|', oneOf(random, "abcd"), literal(random, "ef")))
+                    : dice == 5 ? new Item(2, null, oneOf(random, "abef")) : dice == 6 ? new Item(1, literal(random, "a"), literal(random, "e"))
+                    : new Item(3, null, dice < 17 ? allOf(random, "abcdef", 1) : literal(random, "abcdef"));
+            default:
+                return dice == 0 ? new Item(0, null, oneOf(random, "abcdef"))
+                    : new Item(1, allOf(random, "abcd", random.nextInt(3)), oneOf(random, "abcdef"));
+        }
+    }
+
+    private static Node literal(Random random, String letters) {
+        Node letter = new Node(letters.charAt(random.nextInt(letters.length())), null, null);
+        return random.nextBoolean() ? letter : new Node('!', letter, null);
+    }
+
+    private static Node oneOf(Random random, String letters) {
+        return new Node('|', literal(random, letters), literal(random, letters));
+    }
+
+    /** Letters with & between; 1, if there are none. */
+    private static Node allOf(Random random, String letters, int n) {
+        Node all = new Node('1', null, null);
+        for (int i = 0; i < n; i++) {
+            Node letter = new Node(letters.charAt(random.nextInt(letters.length())), null, null);
+            all = i == 0 ? letter : new Node('&', all, letter);
+        }
+        return all;
+    }
+
     private static void askBoth(Random random, AsARule x, Model m) {
         boolean alone = random.nextBoolean();
-        Node when = alone ? new Node('1', null, null) : Node.random(random, 2);
-        Node then = Node.random(random, 2);
+        boolean plain = theme != ANY && random.nextInt(4) != 0;
+        Node when = alone ? new Node('1', null, null) : plain ? allOf(random, "bcdef", 1 + random.nextInt(3)) : Node.random(random, 2);
+        Node then = !plain ? Node.random(random, 2) : theme == WHYS ? whyThen(random)
+            : literal(random, theme == DOUBTS ? "abcdef" : "ab");
         type(x, (alone ? "" : "if " + when.text(random) + " then ") + then.text(random));
         due("question", x.question(), 1);
         m.when = when;
         m.then = then;
+    }
+
+    private static Node whyThen(Random random) {
+        Node first = random.nextBoolean() ? allOf(random, "abcdef", 2) : literal(random, "abcdef");
+        return new Node("&|".charAt(random.nextInt(2)), first, random.nextBoolean() ? allOf(random, "abcd", 2) : literal(random, "abcdef"));
     }
 
     private static void compare(Random random, AsARule x, Model m) {
